@@ -97,6 +97,17 @@ public final class ActsTest {
         CHECK.due("hour(), no valley", x.hour(), MissingNote.NOT);
         CHECK.due("count(3)", x.count(3), 0);
         CHECK.due("count(7)", x.count(7), 0);
+        // Beyond the 512 calls that are promised, but the one way to the last hour.
+        x = Check.valley("m01;01;s00-");
+        for (int k = 0; k < 9999; k++) {
+            x.hour();
+        }
+        CHECK.due("count(3)", x.count(3), 9999);
+        CHECK.due("undo()", x.undo(), 23);
+        CHECK.due("hour() to the last one", x.hour(), 1);
+        CHECK.due("hour(), HOUR 9999", x.hour(), MissingNote.NOT);
+        CHECK.due("count(3)", x.count(3), 9999);
+        CHECK.due("count(7)", x.count(7), 24);
     }
 
     private static void send() {

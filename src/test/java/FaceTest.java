@@ -117,13 +117,18 @@ public final class FaceTest {
         methodsAreShort(code);
     }
 
+    /** A method begins with a line that ends in ") {" and ends with the brace that stands as far in. */
     private static void methodsAreShort(String code) {
-        int length = 0;
-        for (String line : code.split("\n")) {
-            boolean begins = line.matches(" {4,8}[a-z].*\\) \\{");
-            length = begins ? 1 : length + 1;
-            boolean ends = line.equals("    }") || line.equals("        }");
-            CHECK.holds("a method is long, at: " + line, !ends || length <= 60 || line.equals("    }"));
+        String[] lines = code.split("\n");
+        for (int first = 0; first < lines.length; first++) {
+            Matcher header = Pattern.compile("( {4}| {8})(?!if|for|while|switch)[a-zA-Z].*\\) \\{").matcher(lines[first]);
+            if (header.matches()) {
+                int last = first;
+                while (last < lines.length - 1 && !lines[last].equals(header.group(1) + "}")) {
+                    last++;
+                }
+                CHECK.holds("a method is long: " + lines[first], last - first < 60);
+            }
         }
     }
 }

@@ -45,6 +45,10 @@ public final class ForetoldTest {
         CHECK.due("sings(4), the drone has taken the root", x.sings(4), MissingNote.NONE);
         x.send(3, -1);
         CHECK.due("sings(4), a farmer where the root misses", x.sings(4), 0);
+        CHECK.due("the greatest of all pitches", Check.valley("m0b;0;h0b0").sings(0), 11);
+        CHECK.due("the least as the greatest", Check.valley("m01;1;h0b0").sings(0), 0);
+        CHECK.due("the greatest in reach", Check.valley("m02479;0;h080").sings(0), 7);
+        CHECK.due("the least in reach", Check.valley("m02479;0;s3b0").sings(0), 4);
         CHECK.due("sings(0), no valley", new MissingNote().sings(0), MissingNote.BAD);
     }
 
@@ -89,6 +93,7 @@ public final class ForetoldTest {
         CHECK.due("fills(1), three are too tired", x.fills(1), MissingNote.NONE);
         CHECK.due("nobody is needed", Check.valley("m047;047;s0b0").fills(0), 0);
         CHECK.due("the first takes what the second could", Check.valley("m047;0;s4b-,s44-,s77-").fills(0), 5);
+        CHECK.due("four are needed", Check.valley("m01234;0;d0b0,s0b0,s0b-,s0b0,s0b0").fills(0), 30);
         CHECK.due("fills(0), no valley", new MissingNote().fills(0), MissingNote.BAD);
     }
 
@@ -106,6 +111,8 @@ public final class ForetoldTest {
         // A field that is full by itself counts, and the dear one goes where it need not sing.
         standsAt(Check.valley("m047;04,047;h0b-,s0b-"), 2, 1, 0);
         standsAt(Check.valley("m047;04,0;h0b-,s0b-"), 1, MissingNote.NONE, 0);
+        standsAt(Check.valley("m047;04,047;s0b-"), 2, 0);
+        standsAt(Check.valley("m01;0,0,0,0,0;h0b0,h0b0,h0b0,h0b0,h0b0"), 5, 0, 1, 2, 3, 4);
         for (int bad : new int[] {5, -2, MIN, MAX}) {
             CHECK.due("stands(" + bad + ")", x.stands(bad), MissingNote.BAD);
         }
@@ -132,6 +139,7 @@ public final class ForetoldTest {
             CHECK.due("howls(" + bad + ")", x.howls(bad), MissingNote.BAD);
         }
         CHECK.due("howls of a full chord", Check.valley("m047;047;s00-").howls(0), 3950);
+        CHECK.due("all but 2, 3 and 4 howl", Check.valley("m01;3;s00-").howls(0), 4095 - 4 - 8 - 16);
         CHECK.due("howls where all sounds", Check.valley("m047;0123456789ab;s00-").howls(0), 0);
         CHECK.due("howls(0), no valley", new MissingNote().howls(0), MissingNote.BAD);
     }
@@ -170,7 +178,7 @@ public final class ForetoldTest {
         odds(x, 1, 0, 1, 1);
         odds(x, 2, 0, 0, 1);
         odds(x, 3, 5, 0, 1);
-        int[][] bad = {{4, 0, 0}, {-1, 0, 0}, {0, -1, 0}, {0, 11, 0}, {0, 0, 2}, {0, 0, -1}, {MAX, MAX, MAX}, {MIN, 0, 0}};
+        int[][] bad = {{4, 0, 0}, {-1, 0, 0}, {0, -1, 0}, {0, 11, 0}, {2, 11, 1}, {0, 0, 2}, {0, 0, -1}, {MAX, MAX, MAX}, {MIN, 0, 0}};
         for (int[] row : bad) {
             CHECK.due("wind, a bad number", x.wind(row[0], row[1], row[2]), MissingNote.BAD);
         }
@@ -202,6 +210,15 @@ public final class ForetoldTest {
         // X is 282475249: 3 sounds in field 1, which misses 8 then, and the drone is sent to field 3.
         CHECK.due("decades(2, 1, 0)", x.decades(2, 1, 0), 4);
         CHECK.due("decades(2, 1, 1)", x.decades(2, 1, 1), 11);
+        // X is 1622650073: 5 in field 1, the high one to field 2; 984943658: 10 in field 2, the high one to field 0;
+        // 1144108930: 8 in field 2, the singer, who is tired by 8, to field 3.
+        CHECK.due("decades(3, 1, 0)", x.decades(3, 1, 0), 5);
+        CHECK.due("decades(3, 1, 1)", x.decades(3, 1, 1), 11);
+        CHECK.due("decades(4, 1, 0)", x.decades(4, 1, 0), 6);
+        CHECK.due("decades(4, 1, 1)", x.decades(4, 1, 1), 12);
+        CHECK.due("decades(5, 1, 0)", x.decades(5, 1, 0), 7);
+        CHECK.due("decades(5, 1, 1)", x.decades(5, 1, 1), 14);
+        CHECK.due("a farmer is never tired", Check.valley("m047;-;f0b-").decades(60, 999999, 1), 0);
         x.hour();
         CHECK.due("decades(0, 999999, 1)", x.decades(0, 999999, 1), 7);
         int[][] bad = {{-1, 1, 0}, {61, 1, 0}, {1, 0, 0}, {1, 1000000, 0}, {1, 1, 2}, {1, 1, -1}, {MIN, MIN, MIN}, {MAX, 1, 0}};

@@ -158,6 +158,8 @@ public final class ToldTest {
         CHECK.due("field(2, 0)", x.field(2, 0), MissingNote.BAD);
         CHECK.due("shape(1)", x.shape(1), MissingNote.BAD);
         CHECK.due("singer(2, 0)", x.singer(2, 0), MissingNote.BAD);
+        CHECK.due("nothing of the tape before is read", Check.read(x, "m0b"), -103);
+        CHECK.due("nothing of the tape before is read", Check.read(x, "m0b;b,-;sbb"), -111);
     }
 
     private static void valleyStays() {
@@ -172,6 +174,7 @@ public final class ToldTest {
         CHECK.due("count(4) behind a fault", x.count(4), 4);
         CHECK.due("count(7) behind a fault", x.count(7), 2);
         CHECK.due("field(0, 0) behind a fault", x.field(0, 0), 17);
+        x.ahead(9, 1);
         CHECK.due("another valley", Check.read(x, "m037;03;h0b0,d0b-"), 2);
         CHECK.due("count(3)", x.count(3), 0);
         CHECK.due("count(4)", x.count(4), 0);
