@@ -206,6 +206,10 @@ public final class SheetsTest {
         x.item(0, 2, 4, 0);
         x.item(0, 2, 5, 7);
         CHECK.due("there is no set", x.sounded(0, 2, 4, 1, 2), MissingNote.NONE);
+        // A lesser root always goes ahead of 11, so this drone sings by no set, and all 4095 are one part.
+        x = Check.valley("m01;-;dbb-");
+        found(x, 4095, 1, 0, 12);
+        CHECK.due("all sets in one part", x.sounded(0, 3, 1, 1, 2), 0);
     }
 
     private static void soundedRefused() {
