@@ -339,6 +339,11 @@ public final class BoundsActsTest {
         S.run("read(m06;0;s0b0) = 1", "image(0) = 0", FIVE, "hour() = 3", "restore(0) = 0", "count(0) = 1", "count(1) = 1",
                 "count(2) = 1", "singer(1, 0) = BAD", "field(1, 0) = BAD", "shape(1) = BAD", "chord(1, 2) = 64", "hour() = 1",
                 "sound(0, 6) = 1", "restore(0) = 0", "count(4) = 0", "field(0, 0) = 1", "hour() = 1", "restore(0) = 0");
+        // The first and the last: of four shapes, five fields, five singers.
+        S.run("read(m01,02,03,04;0,0,0,0,0;h0b0,h0b1,h0b2,h0b3,h0b4) = 5", "hour() = 31", "send(4, -1) = 4", "sound(4, 0) = 0",
+                "image(1) = 1", "read(m06;-;f00-) = 1", "restore(1) = 1", "shape(0) = 3", "shape(3) = 17", "field(0, 0) = 1",
+                "field(4, 0) = 0", "singer(0, 3) = 3", "singer(4, 3) = 3", "singer(0, 4) = 0", "singer(4, 4) = NONE",
+                "singer(4, 0) = 2", "singer(4, 2) = 11", "count(4) = 15");
         // The tape and the sheets are not in it.
         S.run(FIVE, "image(0) = 0", "lay(1, 2, 5)", "feed(109) = 1", "restore(0) = 0", "count(8) = 1", "drop(1) = 1");
     }

@@ -133,6 +133,9 @@ public final class BoundsForetoldTest {
         S.run("read(m01;0;h0b-) = 1", "stands(-1) = 1", "stands(0) = 0");
         S.run("read(m01;0,0,0,0,0;h0b-,h0b-,h0b-,h0b-,h0b-) = 5", "stands(-1) = 5", "stands(4) = 4");
         S.run("read(m01234;0,0;h0b-,h0b-,h0b-,h0b-,d0b-) = 5", "stands(-1) = 1", "stands(0) = 0", "stands(3) = 0", "stands(4) = 0");
+        // The dearest way to fill one of five: four high ones.
+        S.run("read(m01234;0,-,-,-,-;h0b-,h0b-,h0b-,h0b-) = 4", "stands(-1) = 1", "stands(0) = 0", "stands(3) = 0");
+        S.run("read(m01234;-,-,-,-,0;h0b-,h0b-,h0b-,h0b-,f0b-) = 5", "stands(-1) = 1", "stands(0) = 4", "stands(3) = 4", "stands(4) = 0");
         // Who is too tired fills nothing.
         S.run("read(m01;0,0;s0b0) = 1", "4 x hour() = 1", "stands(-1) = 0", "stands(0) = 0", "hour() = 0", "stands(-1) = 1");
     }
@@ -147,6 +150,9 @@ public final class BoundsForetoldTest {
         S.run("read(m01;0,-;h0b-,s0b-) = 2", "stands(0) = 1", "stands(1) = 0");
         S.run("read(m01;1;s0b-,d0b-,f0b-) = 3", "stands(0) = NONE", "stands(1) = NONE", "stands(2) = 0");
         S.run("read(m01;1;s0b-,d0b-) = 2", "stands(0) = NONE", "stands(1) = 0");
+        // A farmer tires by nothing: to sing where it does not get full is no worse than to be silent, and no better.
+        S.run("read(m047;-,4;f00-) = 1", "stands(-1) = 0", "stands(0) = 0");
+        S.run("read(m047;4,-;f00-) = 1", "stands(-1) = 0", "stands(0) = 0");
         // A third tires as a singer: the first of the two stays.
         S.run("read(m01;0;s0b-,t0b-) = 2", "stands(0) = 0", "stands(1) = 0");
         S.run("read(m01;0;t0b-,s0b-) = 2", "stands(0) = 0", "stands(1) = 0");
@@ -219,6 +225,9 @@ public final class BoundsForetoldTest {
         S.run("read(m01;0;s0b0) = 1", "wind(0, -1, 0) = BAD", "wind(0, 0, 0) = 1", "wind(0, 0, 1) = 1", "wind(0, 1, 0) = 9",
                 "wind(0, 1, 1) = 10", "wind(0, 9, 0) = 1", "wind(0, 9, 1) = 10", "wind(0, 10, 0) = 0", "wind(0, 10, 1) = 1",
                 "wind(0, 11, 0) = BAD", "wind(0, MIN, 0) = BAD", "wind(0, MAX, 0) = BAD");
+        S.run("read(m01;01,0;s0b0) = 1", "wind(0, 0, 0) = 1", "wind(0, 10, 0) = 1", "wind(0, -1, 0) = BAD", "wind(0, -1, 1) = BAD",
+                "wind(0, 11, 0) = BAD", "wind(0, 11, 1) = BAD", "wind(1, 11, 0) = BAD", "wind(1, 11, 1) = BAD", "wind(1, -1, 1) = BAD",
+                "wind(1, MAX, 1) = BAD", "wind(1, MIN, 1) = BAD");
         S.run("wind(0, 0, 0) = BAD", "wind(0, 11, 2) = BAD", "wind(-1, 5, 1) = BAD");
     }
 

@@ -299,6 +299,10 @@ public final class BoundsSheetsTest {
         S.run("read(m06;-;d0b-,s0b-,s0b-) = 3", "lay(0, 0, 0, 12, 1, 12)", "sounded(0, 0, 0, 1, 2) = 1", "sounded(0, 0, 2, 1, 2) = 0");
         // Not of those named alone: the last of five parts most.
         S.run("read(m06;-;d00-,d00-,d00-,d00-,s0b-) = 5", "lay(0, 0, 0, 12)", "sounded(0, 0, 0, 1, 2) = 4");
+        // By 4, by 7, by both, by 5 and 9, by 3 and 8 the first sings 0; by two of them the second does not.
+        S.run("read(m047;-;s0b-,h0b-) = 2", "lay(0, 0, 0, 0)", "sounded(0, 0, 0, 1, 0) = 5", "sounded(0, 0, 0, 1, 1) = 16",
+                "sounded(0, 0, 0, 1, 2) = 1");
+        S.run("read(m047;-;h0b-,s0b-) = 2", "lay(0, 0, 1, 0)", "sounded(0, 0, 0, 1, 0) = 5", "sounded(0, 0, 0, 1, 2) = 0");
         // One set only, and all sets in one part: the first.
         S.run("read(m06;-;s0b-,s0b-) = 2", "lay(0, 0, 1, 7)", "sounded(0, 0, 0, 1, 0) = 1", "sounded(0, 0, 0, 1, 2) = 0");
         S.run("read(m01;-;dbb-,dbb-) = 2", "lay(0, 0, 1, 12)", "sounded(0, 0, 0, 1, 0) = 4095", "sounded(0, 0, 0, 1, 2) = 0");
@@ -352,6 +356,10 @@ public final class BoundsSheetsTest {
         // By 0 of 0 4 7 10: 4 a singer and a third, 10 a high one, nothing a drone, 7 a farmer; another pitch nobody.
         S.run("read(m047a;-;s0b-) = 1", "lay(0, 1, 1, 4, 1, 10, 1, 12, 1, 7, 1, 5)", "kinds(0, 0, 1, 0, 1) = 10", "kinds(0, 0, 1, 2, 1) = 4",
                 "kinds(0, 0, 1, 4, 1) = 16", "kinds(0, 0, 1, 6, 1) = 32", "kinds(0, 0, 1, 8, 1) = 0", "kinds(0, 0, 1, 0, 2) = 0");
+        // Of several pairs each has its own set.
+        S.run("read(m047a;-;s0b-) = 1", "lay(0, 1, 1, 4, 144, 0, 1, 7, 144, 0, 17, 7, 17, 10)", "kinds(0, 0, 1, 0, 2) = 10",
+                "kinds(0, 0, 1, 2, 2) = 32", "kinds(0, 0, 1, 2, 1) = 58", "kinds(0, 0, 1, 0, 3) = 0", "kinds(0, 0, 1, 6, 2) = 42",
+                "kinds(0, 0, 1, 8, 1) = 42", "kinds(0, 0, 1, 10, 1) = 4", "kinds(0, 0, 1, 0, 5) = 0");
         // By the singer's own range, and not by its kind.
         S.run("read(m047a;-;d5b-,h06-,f00-) = 3", "lay(0, 1, 1, 7, 1, 4, 1, 12)", "kinds(0, 0, 1, 0, 1) = 42", "kinds(1, 0, 1, 2, 1) = 14",
                 "kinds(1, 0, 1, 4, 1) = 48", "kinds(2, 0, 1, 4, 1) = 62");

@@ -237,6 +237,10 @@ public final class BoundsToldTest {
                 "undo() = NONE", "singer(0, 3) = 0", "singer(1, 3) = 0", "singer(2, 3) = 0", "singer(3, 3) = BAD",
                 "shape(0) = 65", "shape(1) = BAD", "field(1, 0) = BAD", "chord(1, 2) = 64", "chord(17, 0) = NONE",
                 "restore(0) = 3", "count(4) = 21", "restore(1) = 4", "count(4) = 24", "drop(0) = 2", "drop(3) = 1");
+        // Nor is it as tired, or as late, as was foretold of the one before.
+        S.run("read(m01;0,0,0,0,0;h0b0,h0b1,h0b2,h0b3,h0b4) = 5", "3 x hour() = 31", "ahead(3, 1) = 50", "decades(9, 1, 1)",
+                "read(m01;0,0,0,0,0;h0b0,h0b1,h0b2,h0b3,h0b4) = 5", "count(3) = 0", "count(4) = 0", "singer(0, 3) = 0",
+                "singer(4, 3) = 0", "hour() = 31", "count(3) = 1");
         // The same text again begins anew, and more than there was can be read.
         S.run("read(m01;0;s0b0) = 1", "hour() = 1", "sound(0, 5) = 1", "read(m01;0;s0b0) = 1", "count(4) = 0", "count(3) = 0",
                 "count(7) = 0", "field(0, 0) = 1", FIVE, "field(3, 0) = 7", "singer(4, 0) = 5");

@@ -338,20 +338,23 @@ final class Script {
         }
     }
 
-    /** No call only reads an item: each is copied to another sheet, as what the one singer of a valley sang. */
+    /**
+     * No call only reads an item: each is copied to another sheet, as what the one singer of a valley sang. The lane is
+     * asked for by a call that only tells, lest the asking blot out a trace.
+     */
     private static void askSheet(Player player, int sheet) {
+        player.call("valley");
+        for (char letter : "m06;-;s0b-".toCharArray()) {
+            player.call("feed", letter);
+        }
+        player.call("valley");
         int lane = -1;
         for (int k = 0; k < 4; k++) {
-            if (player.note("item", sheet, k, -1, 0) == MissingNote.INDEX) {
+            if (player.note("kinds", 0, sheet, k, -1, 1) == MissingNote.INDEX) {
                 lane = k;
             }
         }
         if (lane >= 0) {
-            player.call("valley");
-            for (char letter : "m06;-;s0b-".toCharArray()) {
-                player.call("feed", letter);
-            }
-            player.call("valley");
             int other = (sheet + 1) % 4;
             player.call("sheet", other, lane, 2);
             for (int i = 0; i < 24 && player.note("copy", sheet, i, other, 1, 1) == 1; i++) {
