@@ -46,8 +46,8 @@ public final class MissingNote {
     private final Valley draft = new Valley();
     private final Valley[] images = new Valley[IMAGES];
     private final Acts acts = new Acts();
-    private final Chords chords = new Chords();
-    private final Choir choir = new Choir(chords);
+    private final Choir choir = new Choir();
+    private final Chords chords = choir.chords;
     private final Stations stations = new Stations();
     private final Ear ear = new Ear();
     private final Sheet[] sheets = new Sheet[SHEETS];
@@ -859,11 +859,7 @@ public final class MissingNote {
     private static final class Choir {
         /** What each singer sang at last, a pitch or NOTHING. */
         final int[] song = new int[MOST_SINGERS];
-        private final Chords chords;
-
-        Choir(Chords chords) {
-            this.chords = chords;
-        }
+        final Chords chords = new Chords();
 
         /** Those of a set sing in a field as if they alone stood there: whether it is full by them. */
         boolean sing(Valley v, int field, int who) {

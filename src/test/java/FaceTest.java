@@ -9,35 +9,39 @@ import java.nio.file.Path;
 import java.util.Arrays;
 import java.util.Set;
 import java.util.TreeSet;
-import java.util.regex.Matcher;
-import java.util.regex.Pattern;
+import java.util.stream.Collectors;
 
-/** The document's face, and of the rules of LANGUAGE.md those that can be read off the class or its text. */
+/** The document's face: all of it, as it stands there, and nothing else that can be seen from outside. */
 public final class FaceTest {
     private static final Check CHECK = new Check("FaceTest");
-    private static final String[] FACE = {
-        "int feed(int)", "int valley()", "int shape(int)", "int field(int, int)", "int singer(int, int)",
-        "int as(int, int)", "int chord(int, int)", "int hour()", "int send(int, int)", "int sound(int, int)",
-        "int undo()", "int image(int)", "int restore(int)", "int sings(int)", "int ahead(int, int)", "int fills(int)",
-        "int stands(int)", "int howls(int)", "int back(int)", "int wind(int, int, int)", "int decades(int, int, int)",
-        "int sheet(int, int, int)", "int drop(int)", "long item(int, int, int, long)",
-        "int copy(int, int, int, int, int)", "int log(int, int, int)", "int sounded(int, int, int, int, int)",
-        "int kinds(int, int, int, int, int)", "int count(int)",
-    };
-    private static final String[] CONSTANTS = {
-        "BAD=-1", "NOT=-2", "FULL=-3", "NONE=-4", "NULL=-11", "CAST=-12", "INDEX=-13", "SIZE=-14",
-    };
-    private static final String[] FORBIDDEN = {
-        "throw", "throws", "try", "catch", "synchronized", "assert", "instanceof", "Exact", "->", "::", "@", "double",
-        "float", "Object", "System.out", "System.err", "System.exit", "Random", "Thread", "hashCode", "toString", "\"",
+    private static final String CLASS = "public final class MissingNote {";
+    private static final String CONSTANTS = "public static final int BAD = -1, NOT = -2, FULL = -3, NONE = -4, NULL = -11, CAST = -12, "
+            + "INDEX = -13, SIZE = -14;";
+    private static final String MADE = "public MissingNote();";
+    static final String[] CALLS = {
+        "public int feed(int letter);", "public int valley();", "public int shape(int shape);", "public int field(int field, int what);",
+        "public int singer(int singer, int what);", "public int as(int singer, int kind);", "public int chord(int set, int what);",
+        "public int hour();", "public int send(int singer, int field);", "public int sound(int field, int pitch);", "public int undo();",
+        "public int image(int k);", "public int restore(int k);", "public int sings(int singer);", "public int ahead(int n, int what);",
+        "public int fills(int field);", "public int stands(int singer);", "public int howls(int field);", "public int back(int field);",
+        "public int wind(int field, int q, int what);", "public int decades(int n, int seed, int what);",
+        "public int sheet(int sheet, int lane, int n);", "public int drop(int sheet);",
+        "public long item(int sheet, int lane, int i, long v);", "public int copy(int from, int i, int to, int j, int n);",
+        "public int log(int sheet, int lane, int i);", "public int sounded(int sheet, int lane, int i, int n, int what);",
+        "public int kinds(int singer, int sheet, int lane, int i, int n);", "public int count(int what);",
     };
 
     public static void main(String[] args) throws Exception {
         Class<?> face = MissingNote.class;
         CHECK.holds("the class is public and final", face.getModifiers() == (Modifier.PUBLIC | Modifier.FINAL));
-        members(face);
-        inside(face);
-        source(Path.of(args[0]));
+        CHECK.holds("it is nothing else's", face.getSuperclass() == Object.class && face.getInterfaces().length == 0);
+        methods(face);
+        constants(face);
+        Constructor<?>[] made = face.getDeclaredConstructors();
+        CHECK.holds("one public constructor", made.length == 1 && made[0].getParameterCount() == 0
+                && made[0].getModifiers() == Modifier.PUBLIC);
+        text(Files.readString(Path.of(args[0])));
+        document(args);
         CHECK.end();
     }
 
@@ -45,89 +49,53 @@ public final class FaceTest {
         return Modifier.isPrivate(member.getModifiers());
     }
 
-    private static void members(Class<?> face) throws IllegalAccessException {
-        Set<String> methods = new TreeSet<>();
-        Set<String> names = new TreeSet<>();
+    private static void methods(Class<?> face) {
+        Set<String> seen = new TreeSet<>();
         for (Method method : face.getDeclaredMethods()) {
             if (!isPrivate(method)) {
                 CHECK.holds(method + " is public, no more", method.getModifiers() == Modifier.PUBLIC);
-                String types = Arrays.toString(Arrays.stream(method.getParameterTypes()).map(Class::getName).toArray());
-                methods.add(method.getReturnType() + " " + method.getName() + types.replace('[', '(').replace(']', ')'));
-                names.add(method.getName());
+                String types = Arrays.stream(method.getParameterTypes()).map(Class::getName).collect(Collectors.joining(", "));
+                seen.add("public " + method.getReturnType() + " " + method.getName() + "(" + types + ");");
             }
         }
-        CHECK.holds("the methods are " + methods, methods.equals(new TreeSet<>(Arrays.asList(FACE))));
-        for (Method method : face.getDeclaredMethods()) {
-            CHECK.holds(method + " bears a public name", !isPrivate(method) || !names.contains(method.getName()));
+        Set<String> due = new TreeSet<>();
+        for (String call : CALLS) {
+            due.add(call.replaceAll("(int|long) [a-z]+([,)])", "$1$2"));
         }
-        Set<String> constants = new TreeSet<>();
+        CHECK.holds("the methods are " + seen, seen.equals(due));
+    }
+
+    private static void constants(Class<?> face) throws IllegalAccessException {
+        Set<String> seen = new TreeSet<>();
         for (Field field : face.getDeclaredFields()) {
             if (!isPrivate(field)) {
-                CHECK.holds(field + " is a constant", field.getModifiers() == (Modifier.PUBLIC | Modifier.STATIC | Modifier.FINAL));
-                constants.add(field.getName() + "=" + field.getInt(null));
+                CHECK.holds(field + " is a constant", field.getModifiers() == (Modifier.PUBLIC | Modifier.STATIC | Modifier.FINAL)
+                        && field.getType() == int.class);
+                seen.add(field.getName() + " = " + field.getInt(null));
             }
         }
-        CHECK.holds("the constants are " + constants, constants.equals(new TreeSet<>(Arrays.asList(CONSTANTS))));
-        Constructor<?>[] made = face.getDeclaredConstructors();
-        CHECK.holds("one public constructor", made.length == 1 && made[0].getParameterCount() == 0
-                && made[0].getModifiers() == Modifier.PUBLIC);
+        String due = CONSTANTS.replaceAll("public static final int |;", "");
+        CHECK.holds("the constants are " + seen, seen.equals(new TreeSet<>(Arrays.asList(due.split(", ")))));
     }
 
-    private static void inside(Class<?> face) {
-        Class<?>[] classes = face.getDeclaredClasses();
-        CHECK.holds("at most twelve classes", classes.length <= 11);
-        for (Class<?> one : classes) {
-            int modifiers = one.getModifiers();
-            CHECK.holds(one + " is static", Modifier.isStatic(modifiers));
-            CHECK.holds(one + " is not visible", !Modifier.isPublic(modifiers) && !Modifier.isProtected(modifiers));
-            for (Method method : one.getDeclaredMethods()) {
-                CHECK.holds(method + " takes too many", method.getParameterCount() <= 7);
+    /** What is given bears the document's names, too. */
+    private static void text(String text) {
+        CHECK.holds(CLASS, text.contains("\n" + CLASS + "\n"));
+        for (String call : CALLS) {
+            CHECK.holds("the text has " + call, text.contains("    " + call.replace(";", " {\n")));
+        }
+    }
+
+    /** Says what of the face is no longer in the document as it is here, so that the class can be looked at. */
+    private static void document(String[] args) throws IOException {
+        if (args.length > 1 && Files.exists(Path.of(args[1]))) {
+            String document = Files.readString(Path.of(args[1]));
+            StringBuilder face = new StringBuilder(CLASS + "\n    " + CONSTANTS + "\n    " + MADE + "\n");
+            for (String call : CALLS) {
+                face.append("    ").append(call).append('\n');
             }
-            fields(one);
-        }
-        fields(face);
-    }
-
-    private static void fields(Class<?> one) {
-        int own = 0;
-        for (Field field : one.getDeclaredFields()) {
-            if (Modifier.isStatic(field.getModifiers())) {
-                CHECK.holds(field + " is final", Modifier.isFinal(field.getModifiers()));
-            } else {
-                own++;
-            }
-        }
-        CHECK.holds(one + " has at most twenty fields", own <= 20);
-    }
-
-    private static void source(Path file) throws IOException {
-        String text = Files.readString(file);
-        CHECK.holds("plain signs", text.chars().allMatch(c -> c == '\n' || c >= 32 && c < 127));
-        String code = text.replaceAll("(?s)/\\*.*?\\*/", "").replaceAll("//[^\n]*", "");
-        for (String word : FORBIDDEN) {
-            String edge = Character.isLetter(word.charAt(0)) ? "\\b" : "";
-            String pattern = word.equals("Exact") ? "Exact\\b" : edge + Pattern.quote(word) + edge;
-            CHECK.holds("the code holds " + word, !Pattern.compile(pattern).matcher(code).find());
-        }
-        Matcher imports = Pattern.compile("import ([^;]*);").matcher(code);
-        while (imports.find()) {
-            CHECK.holds("an import: " + imports.group(1), imports.group(1).equals("java.util.Arrays"));
-        }
-        CHECK.holds("no package", !code.contains("package "));
-        methodsAreShort(code);
-    }
-
-    /** A method begins with a line that ends in ") {" and ends with the brace that stands as far in. */
-    private static void methodsAreShort(String code) {
-        String[] lines = code.split("\n");
-        for (int first = 0; first < lines.length; first++) {
-            Matcher header = Pattern.compile("( {4}| {8})(?!if|for|while|switch)[a-zA-Z].*\\) \\{").matcher(lines[first]);
-            if (header.matches()) {
-                int last = first;
-                while (last < lines.length - 1 && !lines[last].equals(header.group(1) + "}")) {
-                    last++;
-                }
-                CHECK.holds("a method is long: " + lines[first], last - first < 60);
+            if (!document.contains(face.append("}\n").toString())) {
+                System.out.println("look at this test, the document no longer has this face");
             }
         }
     }
