@@ -66,6 +66,10 @@ public final class BoundsActsTest {
         // Who is too tired leaves what is missing to the next.
         S.run("read(m01;0,0;s0b0,s0b-) = 2", "4 x hour() = 1", "send(1, 0) = NONE", "sings(0) = NONE", "sings(1) = 1", "hour() = 1",
                 "singer(0, 3) = 7", "singer(1, 3) = 2", "sings(0) = 1", "sings(1) = NONE");
+        S.sentence(9, "in each FIELD that has THE CHORD (by what SOUNDS at first)");
+        // 0 is of 0 and 6, though what is sung would be of other chords; 1 and 3 are of none, and nor is silence.
+        S.run("read(m06,0167;0,13,-,0;s0b0,s0b1,s0b2,s0b3,s0b3) = 5", "sings(0) = 6", "sings(1) = NONE", "sings(2) = NONE", "sings(3) = 6",
+                "sings(4) = NONE", "hour() = 9", "hour() = 9");
         S.sentence(9, "SINGERS who stand there");
         S.run("read(m01;0,-;s0b-,s0b1) = 2", "sings(0) = NONE", "sings(1) = NONE", "hour() = 0", "send(0, 0) = NONE", "hour() = 1");
     }

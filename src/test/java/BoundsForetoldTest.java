@@ -298,6 +298,12 @@ public final class BoundsForetoldTest {
         S.run("read(m01;-,-,-,-,0;s11-,s00-,s00-,s00-,s00-) = 5", "decades(1, 1, 0) = 1");
         // One who stands there already stays there.
         S.run("read(m01;-,-,-,-,0;s0b4) = 1", "decades(1, 1, 0) = 1");
+        S.sentence(22, "then the HOUR passes: how many FIELDS were FULL in all these HOURS together; how much all are TIRED at last.");
+        // 16807 begins the 6, which misses 3; 282475249 the 3, so that nothing is missing; 1622650073 the 5, and there is no chord.
+        S.run("read(m03;-;s33-) = 1", "decades(1, 1, 0) = 1", "decades(1, 1, 1) = 2", "decades(2, 1, 0) = 2", "decades(2, 1, 1) = 1",
+                "decades(3, 1, 0) = 2", "decades(3, 1, 1) = 0", "count(3) = 0", "field(0, 0) = 0", "singer(0, 4) = NONE");
+        // Several in one hour, each counted.
+        S.run("read(m01;01,12,23,34,-;s00-) = 1", "decades(1, 1, 0) = 3", "decades(0, 1, 0) = 0");
     }
 
     /** What is foretold comes, when the same is acted: the twin that was asked and the one that acts agree. */

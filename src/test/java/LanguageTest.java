@@ -1,4 +1,7 @@
 import java.io.IOException;
+import java.lang.reflect.Array;
+import java.lang.reflect.Field;
+import java.lang.reflect.Modifier;
 import java.nio.file.Files;
 import java.nio.file.Path;
 import java.util.ArrayList;
@@ -7,8 +10,9 @@ import java.util.List;
 /** The rules of LANGUAGE.md: that the class keeps to them, and that Rules finds what breaks one. */
 public final class LanguageTest {
     private static final Check CHECK = new Check("LanguageTest");
+    private static final int SETS = 4096;
 
-    public static void main(String[] args) throws IOException {
+    public static void main(String[] args) throws Exception {
         for (String breach : Rules.breaches(Files.readString(Path.of(args[0])))) {
             CHECK.holds(breach, false);
         }
@@ -21,6 +25,7 @@ public final class LanguageTest {
         loops();
         sizes();
         made();
+        room();
         CHECK.end();
     }
 
@@ -161,5 +166,35 @@ public final class LanguageTest {
         breaks(12, "private Part a() { return new Part(); } private static final class Part { }");
         breaks(12, "private int n; { n = 1; }");
         keeps("private final Part part = new Part(3); private static final class Part { final int[] row; Part(int n) { row = new int[3]; } }");
+    }
+
+    /** What one object holds: calls make nothing, so this is all that a run makes. */
+    private static void room() throws IllegalAccessException {
+        List<Object> held = new ArrayList<>();
+        long parts = weigh(new MissingNote(), held);
+        CHECK.holds("an object holds " + held.size() + " objects and rows", held.size() < 100);
+        CHECK.holds("an object holds " + parts + " fields and elements", parts > SETS && parts < 2 * SETS);
+    }
+
+    private static long weigh(Object one, List<Object> held) throws IllegalAccessException {
+        if (one == null || held.stream().anyMatch(other -> other == one)) {
+            return 0;
+        }
+        held.add(one);
+        if (one.getClass().isArray()) {
+            long parts = Array.getLength(one);
+            for (int k = 0; !one.getClass().getComponentType().isPrimitive() && k < Array.getLength(one); k++) {
+                parts += weigh(Array.get(one, k), held);
+            }
+            return parts;
+        }
+        long parts = 0;
+        for (Field field : one.getClass().getDeclaredFields()) {
+            if (!Modifier.isStatic(field.getModifiers())) {
+                field.setAccessible(true);
+                parts += 1 + (field.getType().isPrimitive() ? 0 : weigh(field.get(one), held));
+            }
+        }
+        return parts;
     }
 }
